@@ -141,6 +141,10 @@ public final class DaysTest {
         like.swap(0, 3);
         like.least(2, 2);
         bestIs("22: whatever THE ORDER is", like, 2, 0, 1, 3);
+        due.is("22: SHELF, nothing asked before", LoavesTest.with(3, 1, 1, 3).least(1, 0), 5);
+        OvenHouse even = LoavesTest.with(1, 1, 0, 0);
+        due.is("22: AT ONCE, P like Q", even.least(0, 0), 2);
+        bestIs("22: P not above Q first", even, 1, 0);
         OvenHouse ring = LoavesTest.with(1, 3, 3, 1);
         due.is("22: AT ONCE, two", ring.least(0, 0), 5);
         bestIs("22: from behind the one more", ring, 0, 1);
@@ -180,6 +184,9 @@ public final class DaysTest {
         due.is("23: AT ONCE", x.second(0, 0), 5);
         due.is("23: PLACES", x.second(2, 5), 5);
         due.is("23: like ones are other rows", LoavesTest.with(2, 2, 2, 2).second(0, 0), 6);
+        OvenHouse laws = LoavesTest.with(1, 3, 2, 1, 2, 1);
+        due.is("23: three AT ONCE", laws.second(0, 0), 7);
+        due.is("23: three by SHELF", laws.second(1, 0), 6);
         due.is("23: no BEST by it", x.count(3), 0);
         due.is("23: no BEST by it, told", x.best(0), OvenHouse.NONE);
         x.least(1, 0);
@@ -216,6 +223,9 @@ public final class DaysTest {
         for (int place = 0; place < 4; place++) {
             due.is("24: place " + place, passes.at(place), order[place]);
         }
+        OvenHouse like = LoavesTest.with(1, 0, 0, 1, 0, 0);
+        due.is("24: not where it is like", like.better(1, 0), 1);
+        due.is("24: the raw one stays", like.at(2), 2);
         due.is("24: like rows are not exchanged", LoavesTest.with(2, 2, 2, 2).better(0, 0), 0);
         due.is("24: no loaves", new OvenHouse().better(2, 1), 0);
         due.is("24: one loaf", LoavesTest.with(5, 5).better(0, 0), 0);
@@ -281,6 +291,10 @@ public final class DaysTest {
         y.round();
         // Each LOAF is a ring of its own; the JOIN goes from 30 (TO of 0) to 60 (FROM of 1).
         ringsAre("26: two loaves", y, 2, 40 - 120, 1, 20 * 2 + 10 * 2);
+        y.undo();
+        y.undo();
+        y.least(0, 0);
+        ringsAre("26: anew, of the loaf and the one more", y, 2, 0, 1, 3);
     }
 
     private static void ringsAre(String what, OvenHouse x, int... want) {

@@ -184,6 +184,7 @@ public final class LoavesTest {
         OvenHouse most = with(100000, 99999, 100000, 100000, 1, 0, 99999, 100000);
         most.rule();
         order("14: long ones", most, 3, 1, 0, 2);
+        due.is("14: SHELF, not the law told before", with(1, 9, 1, 1, 1, 1, 9, 1).rule(), 13);
         OvenHouse none = new OvenHouse();
         due.is("14: no loaves", none.rule(), 0);
         due.is("14: counted all the same", none.count(4), 1);

@@ -242,6 +242,10 @@ public final class SheetsTest {
         due.is("7: MIX below 0", x.take(0, 1, 3), OvenHouse.BAD);
         due.is("7: BAKE below 0", x.take(1, 0, 3), OvenHouse.BAD);
         due.is("7: above 100000", x.take(1, 1, 4), OvenHouse.BAD);
+        x.sheet(2, 1, 2);
+        x.put(2, 1, 0, -1);
+        due.is("7: the first below 0", x.take(2, 0, 1), OvenHouse.BAD);
+        due.is("7: the first BAKE below 0", x.take(0, 2, 1), OvenHouse.BAD);
         due.is("7: none came", x.count(0), 0);
         due.is("7: nothing to undo", x.count(4), 0);
         x.least(1, 0);
