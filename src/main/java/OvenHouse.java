@@ -4,6 +4,7 @@ import java.util.Arrays;
 public final class OvenHouse {
     public static final int NONE = -1, BAD = -2, FULL = -3, SPENT = -4, NOT = -5;
 
+    private static final int LEAST_INT = -2147483648, GREATEST_INT = 2147483647;
     private static final int LOAVES_MOST = 40, SPAN_MOST = 100000, DEGREE_MOST = 399;
     private static final int STRETCHES = 8, STRETCH_STEPS = 50, PRICE_MOST = 100;
     private static final int AT_ONCE = 0, SHELF = 1, PLACES = 2, PLACES_MOST = 5;
@@ -78,12 +79,12 @@ public final class OvenHouse {
 
     public int get(int s, int form, int i) {
         if (!isSheet(s) || !isForm(form)) {
-            return Integer.MIN_VALUE;
+            return LEAST_INT;
         }
         int number = sheets.lookAt(s, form, i);
         if (number != 0) {
             sheets.finding(number);
-            return Integer.MIN_VALUE;
+            return LEAST_INT;
         }
         return sheets.items[s][i];
     }
@@ -382,7 +383,7 @@ public final class OvenHouse {
         }
         layWays();
         rows.begin(loaves.size);
-        int least = Integer.MAX_VALUE;
+        int least = GREATEST_INT;
         // A change at place 0 would end the rows that begin with LOAF 0.
         int changed = 1;
         for (int r = 0; r < ROWS_MOST && changed > 0; r++) {
@@ -522,7 +523,7 @@ public final class OvenHouse {
     /** The least END of all rows, perhaps but THE ORDER; the first such row comes to scratch. */
     private int leastOfAllRows(boolean butTheOrder) {
         rows.begin(loaves.size);
-        int least = Integer.MAX_VALUE;
+        int least = GREATEST_INT;
         int changed = 0;
         for (int r = 0; r < ROWS_MOST && changed >= 0; r++) {
             int end = schedule.endOf(loaves, rows.row, changed);
