@@ -21,9 +21,17 @@ final class Due {
         is(what, is ? 1 : 0, 1);
     }
 
+    int asked() {
+        return right + wrong;
+    }
+
+    boolean allRight() {
+        return right > 0 && wrong == 0;
+    }
+
     void finish() {
         System.out.println(test + ": " + right + " answers as due, " + wrong + " not");
-        if (wrong != 0 || right == 0) {
+        if (!allRight()) {
             System.exit(1);
         }
     }

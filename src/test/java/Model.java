@@ -14,6 +14,10 @@ final class Model {
 
     private record State(List<Loaf> loaves, List<Integer> order) { }
 
+    /** All rows of 0 to 7 LOAVES, when they are asked for. */
+    @SuppressWarnings("unchecked")
+    private static final List<List<Integer>>[] ROWS = new List[8];
+
     private List<Loaf> loaves = new ArrayList<>();
     private List<Integer> order = new ArrayList<>();
     private final List<State> states = new ArrayList<>();
@@ -349,9 +353,12 @@ final class Model {
     }
 
     private List<List<Integer>> allRows() {
-        List<List<Integer>> all = new ArrayList<>();
-        rowsFrom(new ArrayList<>(), loaves.size(), all);
-        return all;
+        int n = loaves.size();
+        if (ROWS[n] == null) {
+            ROWS[n] = new ArrayList<>();
+            rowsFrom(new ArrayList<>(), n, ROWS[n]);
+        }
+        return ROWS[n];
     }
 
     private void found(List<Integer> row) {

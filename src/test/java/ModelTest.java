@@ -1,7 +1,7 @@
 /** Runs of 512 calls on the class and on the Model, with numbers from a fixed row: always the same. */
 public final class ModelTest {
     private static final Due due = new Due("ModelTest");
-    private static final int RUNS = 400, CALLS = 512;
+    private static final int RUNS = 140, CALLS = 512;
 
     private OvenHouse x = new OvenHouse();
     private Model y = new Model();
