@@ -9,6 +9,9 @@ public final class DaysEdgesTest {
     /** Of all rows of these one alone is least by SHELF and PLACES, 47, the next one is 48: as they stand. */
     private static final int[] ONE_BEST = {2, 3, 3, 6, 5, 7, 7, 11, 10, 9, 9, 6, 7, 3};
 
+    /** The END of these is another one by each LAW and each k: 36, 24, 34, 32, 30, 28, 26. */
+    private static final int[] ALL_APART = {0, 2, 0, 2, 0, 2, 0, 2, 0, 2, 0, 2, 0, 2, 14, 10};
+
     private interface Call {
         int on(OvenHouse x, int law, int k);
     }
@@ -23,6 +26,7 @@ public final class DaysEdgesTest {
         day();
         moment();
         idle();
+        asked();
         bound();
         leastOfNone();
         leastByShelf();
@@ -64,7 +68,7 @@ public final class DaysEdgesTest {
 
     private static void day() {
         edges.edge("18: each LAW and each k has its own END", due -> {
-            OvenHouse x = Edges.with(0, 2, 0, 2, 0, 2, 0, 2, 0, 2, 0, 2, 0, 2, 14, 10);
+            OvenHouse x = Edges.with(ALL_APART);
             int[] want = {36, 24, 34, 32, 30, 28, 26};
             for (int i = 0; i < want.length; i++) {
                 int[] law = Edges.LAWS[i];
@@ -148,6 +152,25 @@ public final class DaysEdgesTest {
         });
     }
 
+    private static void asked() {
+        for (int[] law : Edges.LAWS) {
+            edges.edge("a DAY by LAW " + law[0] + ", k " + law[1] + " is not one asked before", due -> {
+                for (int[] before : Edges.LAWS) {
+                    OvenHouse x = Edges.with(ALL_APART);
+                    int day = x.day(law[0], law[1]);
+                    x.day(before[0], before[1]);
+                    due.is("day", x.day(law[0], law[1]), day);
+                    x.day(before[0], before[1]);
+                    due.is("moment", x.moment(law[0], law[1], 7, 3), day);
+                    x.day(before[0], before[1]);
+                    due.is("idle", x.idle(law[0], law[1]), day - 24);
+                    x.day(before[0], before[1]);
+                    due.is("rule", x.rule(), 24);
+                }
+            });
+        }
+    }
+
     private static void bound() {
         edges.edge("21: 0 without LOAVES", due -> due.is("bound()", new OvenHouse().bound(), 0));
         edges.edge("21: 0 again behind undo()", due -> {
@@ -158,10 +181,12 @@ public final class DaysEdgesTest {
         edges.edge("21: one LOAF", due -> due.is("bound()", Edges.with(3, 4).bound(), 7));
         edges.edge("21: the least BAKE is 0", due -> due.is("bound()", Edges.with(9, 0, 9, 5).bound(), 18));
         edges.edge("21: the least MIX is 0", due -> due.is("bound()", Edges.with(5, 9, 0, 9).bound(), 18));
-        edges.edge("21: all MIX is the greater one by one", due ->
+        edges.edge("21: the one with all MIX is the greater one by one", due ->
+            due.is("bound()", Edges.with(5, 2, 5, 4).bound(), 12));
+        edges.edge("21: the one with all BAKE is the greater one by one", due ->
+            due.is("bound()", Edges.with(2, 5, 4, 5).bound(), 12));
+        edges.edge("21: both are like", due ->
             due.is("bound()", Edges.with(5, 2, 4, 5).bound(), 11));
-        edges.edge("21: all BAKE is the greater one by one", due ->
-            due.is("bound()", Edges.with(2, 5, 5, 4).bound(), 11));
         edges.edge("21: the least is of the last LOAF", due ->
             due.is("bound()", Edges.with(5, 5, 5, 5, 5, 1).bound(), 16));
         edges.edge("21: 40 of the longest", due ->
@@ -339,6 +364,23 @@ public final class DaysEdgesTest {
                 });
             }
         }
+        edges.edge("23: 7 LOAVES again, where an eighth was taken back", due -> {
+            OvenHouse x = Edges.with(ONE_BEST);
+            x.loaf(9, 9);
+            due.is("second(1, 0)", x.second(1, 0), SPENT);
+            x.undo();
+            due.is("second(1, 0)", x.second(1, 0), 48);
+            due.is("second(2, 5)", x.second(2, 5), 48);
+        });
+        edges.edge("23: two LOAVES again, where more were taken back", due -> {
+            OvenHouse x = Edges.with(1, 3, 3, 1, 9, 9, 9, 9);
+            x.second(1, 0);
+            x.undo();
+            x.undo();
+            due.is("second(1, 0)", x.second(1, 0), 7);
+            x.undo();
+            due.is("second(1, 0)", x.second(1, 0), NONE);
+        });
         edges.edge("23: 40 LOAVES: SPENT", due ->
             due.is("second(1, 0)", Edges.alike(40, 1, 1).second(1, 0), SPENT));
         edges.edge("23: BAD comes ahead of NONE", due -> {

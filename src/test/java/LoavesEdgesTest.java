@@ -220,6 +220,13 @@ public final class LoavesEdgesTest {
             due.is("swap(0, 2)", x.swap(0, 2), 1);
             Edges.order(due, x, 2, 1, 0);
         });
+        edges.edge("13: the first and the last place of 40", due -> {
+            OvenHouse x = Edges.alike(40, 1, 1);
+            due.is("swap(39, 0)", x.swap(39, 0), 1);
+            due.is("at(0)", x.at(0), 39);
+            due.is("at(39)", x.at(39), 0);
+            due.is("swap(39, 40)", x.swap(39, 40), BAD);
+        });
         edges.edge("13: the greater place first", due -> {
             OvenHouse x = Edges.alike(3, 1, 1);
             due.is("swap(2, 1)", x.swap(2, 1), 1);

@@ -340,6 +340,15 @@ public final class SheetsEdgesTest {
         got("NULL", three(0), 0, 0, 0, 1);
         got("CAST", three(0), 1, 1, 0, 3);
         got("CAST, an int as a byte", three(2), 1, 0, 0, 3);
+        OvenHouse none = new OvenHouse();
+        none.sheet(1, 0, 0);
+        got("INDEX of a SHEET of 0 items", none, 1, 0, 0, 2);
+        OvenHouse forty = new OvenHouse();
+        forty.sheet(1, 0, 40);
+        got("INDEX 40 of a SHEET of 40 items", forty, 1, 0, 40, 2);
+        OvenHouse lost = three(2);
+        lost.lose(1);
+        got("NULL of a SHEET that was LOST", lost, 1, 2, 0, 1);
         got("INDEX behind the last", three(0), 1, 0, 3, 2);
         got("INDEX below 0", three(0), 1, 0, -1, 2);
         got("INDEX, the greatest", three(0), 1, 0, MAX, 2);
@@ -529,6 +538,12 @@ public final class SheetsEdgesTest {
             due.is("take(0, 0, 4)", x.take(0, 0, 4), FULL);
             due.is("count(0)", x.count(0), 37);
             due.is("count(5)", x.count(5), 0);
+        });
+        edges.edge("7: FULL: there is one and 40 are to come", due -> {
+            OvenHouse x = Edges.with(1, 1);
+            x.sheet(0, 0, 40);
+            due.is("take(0, 0, 40)", x.take(0, 0, 40), FULL);
+            due.is("take(0, 0, 39)", x.take(0, 0, 39), 40);
         });
         edges.edge("7: FULL: there are 40 and one is to come", due -> {
             OvenHouse x = Edges.alike(40, 1, 1);

@@ -515,6 +515,24 @@ public final class TermsEdgesTest {
             due.is("least(0, 0)", x.least(0, 0), 10);
             Edges.best(due, x, 0);
         });
+        edges.edge("AT ONCE: the one more has Q and P 0, also where more LOAVES made RINGS before", due -> {
+            OvenHouse x = Edges.heated(1, 2, 300, 200);
+            x.round();
+            for (int times = 0; times < 3; times++) {
+                x.undo();
+            }
+            due.is("count(0)", x.count(0), 1);
+            due.is("least(0, 0)", x.least(0, 0), 2);
+            Edges.rings(due, x, 2, 0, 1, 1);
+            Edges.best(due, x, 0);
+        });
+        edges.edge("AT ONCE: the one more has Q and P 0, also where one LOAF more was there before", due -> {
+            OvenHouse x = Edges.with(4, 6, 50, 70);
+            due.is("least(0, 0)", x.least(0, 0), 124);
+            x.undo();
+            due.is("least(0, 0)", x.least(0, 0), 10);
+            Edges.rings(due, x, 2, 0, 1, 4);
+        });
         edges.edge("AT ONCE: BEST begins behind the one more, not with LOAF 0", due -> {
             OvenHouse x = Edges.with(3, 1, 1, 3);
             due.is("least(0, 0)", x.least(0, 0), 5);
