@@ -1,7 +1,9 @@
 import java.util.ArrayList;
 import java.util.Arrays;
 import java.util.Comparator;
+import java.util.HashMap;
 import java.util.List;
+import java.util.Map;
 
 /**
  * The document once more, by other ways than the class takes: days moment by moment, prices step by
@@ -15,8 +17,7 @@ final class Model {
     private record State(List<Loaf> loaves, List<Integer> order) { }
 
     /** All rows of 0 to 7 LOAVES, when they are asked for. */
-    @SuppressWarnings("unchecked")
-    private static final List<List<Integer>>[] ROWS = new List[8];
+    private static final Map<Integer, List<List<Integer>>> ROWS = new HashMap<>();
 
     private List<Loaf> loaves = new ArrayList<>();
     private List<Integer> order = new ArrayList<>();
@@ -354,11 +355,11 @@ final class Model {
 
     private List<List<Integer>> allRows() {
         int n = loaves.size();
-        if (ROWS[n] == null) {
-            ROWS[n] = new ArrayList<>();
-            rowsFrom(new ArrayList<>(), n, ROWS[n]);
+        if (!ROWS.containsKey(n)) {
+            ROWS.put(n, new ArrayList<>());
+            rowsFrom(new ArrayList<>(), n, ROWS.get(n));
         }
-        return ROWS[n];
+        return ROWS.get(n);
     }
 
     private void found(List<Integer> row) {
